@@ -1,0 +1,94 @@
+/** Promise 29: digest. */
+final class Promise29Test {
+    private static long d;
+
+    public static void main(String[] args) {
+        Ropewalk x = new Ropewalk();
+        same("a new object", x);
+        int row = Check.rowOf(x, 0, 500, 2, 700, 0, 400, 1, 600, 0, 300);
+        same("a ROW", x);
+        int a = x.sign(3, 500, 600, 100);
+        int b = x.sign(4, 401, 500, 50);
+        int f = x.fraction(a, b);
+        x.top(f, 1);
+        same("a TOP", x);
+        x.breakRow(row, 1600);
+        same("kept LINES", x);
+        x.row();
+        x.put(row, x.space(100));
+        x.top(row, 0);
+        same("two ROWS", x);
+        x.resize(a, 2000, 2000, 2000);
+        same("another size", x);
+        x.breakRow(row, 1);
+        same("other LINES", x);
+        Check.due("digest() twice", x.digest(), x.digest());
+        Check.end();
+    }
+
+    private static void add(long number) {
+        d = d * 31 + number;
+    }
+
+    private static void same(String what, Ropewalk x) {
+        d = 58074;
+        add(x.parts());
+        for (int part = 0; part < x.parts(); part++) {
+            addPart(x, part);
+        }
+        for (int part = 0; part < x.parts(); part++) {
+            if (x.ofPart(part, 0) == 2) {
+                addRow(x, part);
+            }
+        }
+        int lines = countKept(x);
+        add(lines);
+        for (int line = 0; line < lines; line++) {
+            add(x.line(line, 0));
+            add(x.line(line, 1));
+        }
+        add(x.cost());
+        Check.due("digest() of " + what, x.digest(), d);
+    }
+
+    private static void addPart(Ropewalk x, int part) {
+        for (int what = 0; what <= 2; what++) {
+            add(x.ofPart(part, what));
+        }
+        for (int style = 0; style <= 2; style += 2) {
+            for (int what = 0; what <= 2; what++) {
+                add(x.size(part, style, what));
+            }
+        }
+        try {
+            for (int what = 0; what <= 5; what++) {
+                add(x.place(part, what));
+            }
+        } catch (IllegalStateException e) {
+            // it is not in the TOP, and adds nothing
+            return;
+        }
+    }
+
+    private static void addRow(Ropewalk x, int row) {
+        for (int place = 0; place < x.ofPart(row, 2); place++) {
+            add(x.classAt(row, place));
+            add(x.gap(row, place));
+        }
+        add(x.linesWith(row, 3000));
+        add(x.roomFor(row, 2));
+    }
+
+    private static int countKept(Ropewalk x) {
+        int lines = 0;
+        while (lines < 17) {
+            try {
+                x.line(lines, 0);
+            } catch (IndexOutOfBoundsException e) {
+                return lines;
+            }
+            lines++;
+        }
+        return lines;
+    }
+}
