@@ -1026,7 +1026,7 @@ public final class Ropewalk {
 
         private long raised(int inStyle, long down) {
             long up = Math.max(scaled(400, inStyle), of(0, inStyle, HEIGHT) - scaled(200, inStyle));
-            if (partIn(1) == null || partIn(2) == null) {
+            if (partIn(2) == null) {
                 return up;
             }
             long underUpper = up - of(1, inStyle, DEPTH);
@@ -1182,7 +1182,7 @@ public final class Ropewalk {
         }
 
         void breakBest(Row row, long room) {
-            int n = Math.min(row.named, MOST_IN_ROW);
+            int n = Math.max(0, Math.min(row.named, MOST_IN_ROW));
             costs[n] = 0;
             counts[n] = 0;
             for (int start = n - 1; start >= 0; start--) {
@@ -1193,6 +1193,9 @@ public final class Ropewalk {
         }
 
         private void findFrom(int start, int n, Row row, long room) {
+            if (start < 0 || start >= costs.length) {
+                return;
+            }
             costs[start] = NO_COST_YET;
             long width = 0;
             for (int i = start; i < n; i++) {
@@ -1232,7 +1235,7 @@ public final class Ropewalk {
         private void keepLines(int n) {
             lines = 0;
             int start = 0;
-            for (int i = 0; i < MOST_IN_ROW && start >= 0 && start < n; i++) {
+            for (int i = 0; i < MOST_IN_ROW && start >= 0 && start < n && start < ends.length; i++) {
                 partsOfLines[i] = ends[start] - start;
                 widthsOfLines[i] = widths[start];
                 lines++;

@@ -33,6 +33,10 @@ final class Promise11Test {
         Check.lies(x, two, 2, 770, -298);
         x.top(m, 1);
         Check.lies(x, one, 1, 0, 375);
+        int four = x.sign(0, 700, 0, 0);
+        Check.due("WIDTH ahead of fit()", x.size(m, 1, 0), 1401);
+        x.fit(m, 1, four);
+        Check.due("WIDTH behind fit()", x.size(m, 1, 0), 1800);
     }
 
     private static void wrongOnes() {

@@ -21,6 +21,10 @@ final class Promise19Test {
         Check.due("its highest y", x.at(0, 599), 0);
         Check.due("above it", x.at(0, 600), -1);
         Check.due("far away", x.at(Integer.MAX_VALUE, Integer.MIN_VALUE), -1);
+        x.resize(0, 400, 600, 100);
+        Check.due("where it has ended", x.at(400, 0), -1);
+        x.resize(0, 500, 600, 100);
+        Check.due("where it goes on", x.at(400, 0), 0);
         x.top(0, 3);
         Check.due("its last x in 3", x.at(249, 299), 0);
         Check.due("behind it in 3", x.at(250, 299), -1);

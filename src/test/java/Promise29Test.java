@@ -22,6 +22,15 @@ final class Promise29Test {
         same("another size", x);
         x.breakRow(row, 1);
         same("other LINES", x);
+        // 3000 wide, and 1 wider: the one needs one LINE in a room of 3000, the other two
+        int[] long3000 = {0, 2000, 2, 222, 0, 222};
+        int[] long3001 = {0, 2000, 2, 222, 0, 223};
+        for (int[] each : new int[][] {long3000, long3001}) {
+            Ropewalk y = new Ropewalk();
+            int wide = Check.rowOf(y, each);
+            Check.due("WIDTH", y.size(wide, 1, 0), 2778 + each[5]);
+            same("a ROW about as wide as the room", y);
+        }
         Check.due("digest() twice", x.digest(), x.digest());
         Check.end();
     }
