@@ -1,17 +1,51 @@
-/** What the tests share: each check that fails is printed, and end() tells it by the exit code. */
+/**
+ * What the tests share: each check that fails is printed, and end() tells how many tests passed and
+ * failed, at last by the exit code. A test is what stands between a test() and the next one; a file
+ * that begins none is one test.
+ */
 final class Check {
     interface Call {
         long run();
     }
 
+    private static String name = "";
+    private static int checks = 0;
     private static int wrong = 0;
-    private static int all = 0;
+    private static int passed = 0;
+    private static int failed = 0;
 
     private Check() {
     }
 
+    /** Begins a test, which has the sentence of the document as its name, or says it shortly. */
+    static void test(String sentence) {
+        if (checks > 0 || !name.isEmpty()) {
+            close();
+        }
+        name = sentence;
+    }
+
+    private static void close() {
+        if (wrong == 0 && checks > 0) {
+            passed++;
+        } else {
+            failed++;
+            System.out.println("FAILED: " + name + (checks == 0 ? " (nothing is checked)" : ""));
+        }
+        checks = 0;
+        wrong = 0;
+    }
+
+    static void holds(String what, boolean isRight) {
+        checks++;
+        if (!isRight) {
+            wrong++;
+            System.out.println("it does not hold: " + what);
+        }
+    }
+
     static void due(String what, long got, long want) {
-        all++;
+        checks++;
         if (got != want) {
             wrong++;
             System.out.println(what + " answered " + got + ", due is " + want);
@@ -19,27 +53,32 @@ final class Check {
     }
 
     static void dueDouble(String what, double got, double want) {
-        all++;
+        checks++;
         if (got != want) {
             wrong++;
             System.out.println(what + " answered " + got + ", due is " + want);
         }
     }
 
-    /** The call must throw just this class, and leave all answers as they were. */
-    static void refused(String what, Class<?> due, Ropewalk x, Call call) {
-        long before = x.digest();
-        Class<?> thrown = null;
+    /** The call must throw just this class. */
+    static void thrown(String what, Class<?> due, Call call) {
+        Class<?> its = null;
         try {
             call.run();
         } catch (RuntimeException e) {
-            thrown = e.getClass();
+            its = e.getClass();
         }
-        all++;
-        if (thrown != due) {
+        checks++;
+        if (its != due) {
             wrong++;
-            System.out.println(what + " threw " + thrown + ", due is " + due);
+            System.out.println(what + " threw " + its + ", due is " + due);
         }
+    }
+
+    /** The call must throw just this class, and leave all answers as they were. */
+    static void refused(String what, Class<?> due, Ropewalk x, Call call) {
+        long before = x.digest();
+        thrown(what, due, call);
         due(what + ": digest() behind it", x.digest(), before);
     }
 
@@ -91,17 +130,39 @@ final class Check {
         return row;
     }
 
+    /** A ROW of so many SIGNS of the greatest width, in ROWS of 16: it has 16 at most of these. */
+    static int wideRow(Ropewalk x, int signs, int widthOfOneMore) {
+        int outer = x.row();
+        int inner = 0;
+        for (int i = 0; i < signs; i++) {
+            if (i % 16 == 0) {
+                inner = x.row();
+                x.put(outer, inner);
+            }
+            x.put(inner, x.sign(0, 2000, 0, 0));
+        }
+        if (widthOfOneMore > 0) {
+            x.put(outer, x.sign(0, widthOfOneMore, 0, 0));
+        }
+        return outer;
+    }
+
     static Ropewalk full() {
+        return signs(60);
+    }
+
+    static Ropewalk signs(int many) {
         Ropewalk x = new Ropewalk();
-        for (int i = 0; i < 60; i++) {
+        for (int i = 0; i < many; i++) {
             x.sign(0, 100, 100, 100);
         }
         return x;
     }
 
     static void end() {
-        System.out.println(wrong == 0 ? all + " checks hold" : wrong + " of " + all + " checks do not hold");
-        if (wrong != 0 || all == 0) {
+        close();
+        System.out.println(passed + " passed, " + failed + " failed");
+        if (failed != 0) {
             System.exit(1);
         }
     }

@@ -44,23 +44,14 @@ final class FaceTest {
         "double density()",
         "long digest()"};
 
-    private static int wrong = 0;
-
     public static void main(String[] args) {
+        Check.test("the public methods are those of the document");
         publicMethods();
+        Check.test("the class has no other member that is not private");
         otherMembers();
+        Check.test("the classes inside it are as LANGUAGE.md has them");
         nestedClasses();
-        System.out.println(wrong == 0 ? "the face is as due" : wrong + " faults in the face");
-        if (wrong != 0) {
-            System.exit(1);
-        }
-    }
-
-    private static void check(String what, boolean holds) {
-        if (!holds) {
-            wrong++;
-            System.out.println("it does not hold: " + what);
-        }
+        Check.end();
     }
 
     private static String names(Class<?>[] types) {
@@ -84,41 +75,41 @@ final class FaceTest {
             if (Modifier.isPublic(m.getModifiers())) {
                 has.add(told(m));
                 publicNames.add(m.getName());
-                check(m.getName() + " is neither static nor final", (m.getModifiers() & ~Modifier.PUBLIC) == 0);
+                Check.holds(m.getName() + " is neither static nor final", (m.getModifiers() & ~Modifier.PUBLIC) == 0);
             }
         }
         TreeSet<String> due = new TreeSet<>(Arrays.asList(FACE));
-        check("the public methods " + has + " are " + due, has.equals(due));
+        Check.holds("the public methods " + has + " are " + due, has.equals(due));
         for (Method m : Ropewalk.class.getDeclaredMethods()) {
             boolean isPrivate = Modifier.isPrivate(m.getModifiers());
-            check(m.getName() + " is public or private", isPrivate || Modifier.isPublic(m.getModifiers()));
-            check(m.getName() + " has a name of its own", !isPrivate || !publicNames.contains(m.getName()));
+            Check.holds(m.getName() + " is public or private", isPrivate || Modifier.isPublic(m.getModifiers()));
+            Check.holds(m.getName() + " has a name of its own", !isPrivate || !publicNames.contains(m.getName()));
         }
     }
 
     private static void otherMembers() {
-        check("the class is public and final", Ropewalk.class.getModifiers() == (Modifier.PUBLIC | Modifier.FINAL));
+        Check.holds("the class is public and final", Ropewalk.class.getModifiers() == (Modifier.PUBLIC | Modifier.FINAL));
         Constructor<?>[] constructors = Ropewalk.class.getDeclaredConstructors();
-        check("one public constructor without arguments", constructors.length == 1
+        Check.holds("one public constructor without arguments", constructors.length == 1
                 && Modifier.isPublic(constructors[0].getModifiers()) && constructors[0].getParameterCount() == 0);
         for (Field f : Ropewalk.class.getDeclaredFields()) {
-            check(f.getName() + " is private", Modifier.isPrivate(f.getModifiers()));
+            Check.holds(f.getName() + " is private", Modifier.isPrivate(f.getModifiers()));
         }
     }
 
     private static void nestedClasses() {
         Class<?>[] nested = Ropewalk.class.getDeclaredClasses();
-        check("at most 12 classes", nested.length + 1 <= 12);
+        Check.holds("at most 12 classes", nested.length + 1 <= 12);
         for (Class<?> c : nested) {
-            check(c.getName() + " is static and not public",
+            Check.holds(c.getName() + " is static and not public",
                     Modifier.isStatic(c.getModifiers()) && !Modifier.isPublic(c.getModifiers()));
             int own = 0;
             for (Field f : c.getDeclaredFields()) {
                 boolean isStatic = Modifier.isStatic(f.getModifiers());
                 own += isStatic ? 0 : 1;
-                check(f.getName() + " is final, if it is static", !isStatic || Modifier.isFinal(f.getModifiers()));
+                Check.holds(f.getName() + " is final, if it is static", !isStatic || Modifier.isFinal(f.getModifiers()));
             }
-            check(c.getName() + " has at most 20 fields", own <= 20);
+            Check.holds(c.getName() + " has at most 20 fields", own <= 20);
         }
     }
 }

@@ -631,4 +631,40 @@ final class Model {
         }
         return top == -1 || box(top, topStyle).wide == 0 ? 0 : sum / box(top, topStyle).wide;
     }
+
+    private long added(long d, long... numbers) {
+        long sum = d;
+        for (long x : numbers) {
+            sum = sum * 31 + x;
+        }
+        return sum;
+    }
+
+    long digest() {
+        long d = added(58074, parts());
+        List<Spot> spots = spots();
+        for (int part = 0; part < nodes.size(); part++) {
+            Box shown = box(part, 0);
+            Box small = box(part, 2);
+            d = added(d, ofPart(part, 0), ofPart(part, 1), ofPart(part, 2));
+            d = added(d, shown.wide, shown.high, shown.deep, small.wide, small.high, small.deep);
+            for (Spot s : spots) {
+                if (s.part == part) {
+                    Box its = box(part, s.style);
+                    d = added(d, s.style, s.x, s.y, its.wide, its.high, its.deep);
+                }
+            }
+        }
+        for (int row = 0; row < nodes.size(); row++) {
+            for (int place = 0; nodes.get(row).kind == 2 && place < nodes.get(row).in.size(); place++) {
+                d = added(d, classAt(row, place), gap(row, place));
+            }
+            d = nodes.get(row).kind == 2 ? added(d, linesWith(row, 3000), roomFor(row, 2)) : d;
+        }
+        d = added(d, kept.size());
+        for (int[] each : kept) {
+            d = added(d, each[0], each[1]);
+        }
+        return added(d, keptCost);
+    }
 }

@@ -3,25 +3,10 @@ final class Promise29Test {
     private static long d;
 
     public static void main(String[] args) {
-        Ropewalk x = new Ropewalk();
-        same("a new object", x);
-        int row = Check.rowOf(x, 0, 500, 2, 700, 0, 400, 1, 600, 0, 300);
-        same("a ROW", x);
-        int a = x.sign(3, 500, 600, 100);
-        int b = x.sign(4, 401, 500, 50);
-        int f = x.fraction(a, b);
-        x.top(f, 1);
-        same("a TOP", x);
-        x.breakRow(row, 1600);
-        same("kept LINES", x);
-        x.row();
-        x.put(row, x.space(100));
-        x.top(row, 0);
-        same("two ROWS", x);
-        x.resize(a, 2000, 2000, 2000);
-        same("another size", x);
-        x.breakRow(row, 1);
-        same("other LINES", x);
+        String[] stages = {"a new object", "a ROW", "a TOP", "kept LINES", "two ROWS", "another size", "other LINES"};
+        for (int stage = 0; stage < stages.length; stage++) {
+            same(stages[stage], made(stage));
+        }
         // 3000 wide, and 1 wider: the one needs one LINE in a room of 3000, the other two
         int[] long3000 = {0, 2000, 2, 222, 0, 222};
         int[] long3001 = {0, 2000, 2, 222, 0, 223};
@@ -31,8 +16,32 @@ final class Promise29Test {
             Check.due("WIDTH", y.size(wide, 1, 0), 2778 + each[5]);
             same("a ROW about as wide as the room", y);
         }
-        Check.due("digest() twice", x.digest(), x.digest());
+        Check.due("digest() of another that is made by the same calls", made(6).digest(), made(6).digest());
         Check.end();
+    }
+
+    private static Ropewalk made(int stage) {
+        Ropewalk x = new Ropewalk();
+        int row = stage >= 1 ? Check.rowOf(x, 0, 500, 2, 700, 0, 400, 1, 600, 0, 300) : 0;
+        if (stage >= 2) {
+            int f = x.fraction(x.sign(3, 500, 600, 100), x.sign(4, 401, 500, 50));
+            x.top(f, 1);
+        }
+        if (stage >= 3) {
+            x.breakRow(row, 1600);
+        }
+        if (stage >= 4) {
+            x.row();
+            x.put(row, x.space(100));
+            x.top(row, 0);
+        }
+        if (stage >= 5) {
+            x.resize(6, 2000, 2000, 2000);
+        }
+        if (stage >= 6) {
+            x.breakRow(row, 1);
+        }
+        return x;
     }
 
     private static void add(long number) {

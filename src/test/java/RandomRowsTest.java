@@ -9,10 +9,9 @@ final class RandomRowsTest {
         for (int i = 0; i < ROWS && wrong == 0; i++) {
             compare(draw(3), 1 + draw(11));
         }
-        System.out.println(wrong == 0 ? ROWS + " rows agree with the model" : "a row does not agree with the model");
-        if (wrong != 0) {
-            System.exit(1);
-        }
+        Check.test(ROWS + " rows are broken as by the model");
+        Check.due("answers that differ", wrong, 0);
+        Check.end();
     }
 
     private static int draw(int below) {

@@ -6,8 +6,12 @@ final class RandomRunsTest {
 
     private static long seed;
     private static int wrong = 0;
-    private static final long[] answered = new long[27];
-    private static final long[] refused = new long[27];
+    private static final String[] CALLS_OF_FACE = {"sign", "space", "row", "put", "fraction", "root", "scripts",
+        "fence", "matrix", "fit", "bar", "resize", "parts", "ofPart", "size", "top", "place", "at", "classAt",
+        "gap", "breakRow", "line", "cost", "linesWith", "roomFor", "widthWith", "density", "digest"};
+    private static final int KINDS = CALLS_OF_FACE.length;
+    private static final long[] answered = new long[KINDS];
+    private static final long[] refused = new long[KINDS];
 
     public static void main(String[] args) {
         for (int run = 0; run < RUNS && wrong == 0; run++) {
@@ -17,13 +21,12 @@ final class RandomRunsTest {
         for (int kind = 0; kind < answered.length; kind++) {
             if (answered[kind] < 20) {
                 wrong++;
-                System.out.println("call " + kind + " was answered just " + answered[kind] + " times");
+                System.out.println(CALLS_OF_FACE[kind] + " was answered just " + answered[kind] + " times");
             }
         }
-        System.out.println(wrong == 0 ? RUNS + " runs agree with the model" : "a run does not agree with the model");
-        if (wrong != 0) {
-            System.exit(1);
-        }
+        Check.test(RUNS + " runs of " + CALLS + " calls agree with the model");
+        Check.due("answers that do not", wrong, 0);
+        Check.end();
     }
 
     private static int draw(int below) {
@@ -43,7 +46,7 @@ final class RandomRunsTest {
             long got = REFUSED;
             String thrown = "";
             try {
-                got = byProgram(x, kind, with);
+                got = Calls.on(x, CALLS_OF_FACE[kind], with);
             } catch (RuntimeException e) {
                 thrown = e.getClass().getName();
             }
@@ -57,15 +60,15 @@ final class RandomRunsTest {
             (due.isEmpty() ? answered : refused)[kind]++;
             if (got != want || !thrown.equals(due)) {
                 wrong++;
-                System.out.println("run " + run + ", call " + call + " of kind " + kind + " with "
-                        + java.util.Arrays.toString(with) + ": " + got + thrown + ", due is " + want + due);
+                System.out.println("run " + run + ", call " + call + ", " + Calls.told(CALLS_OF_FACE[kind], with)
+                        + ": " + got + thrown + ", due is " + want + due);
             }
         }
     }
 
     /** More of what adds at first, more of what asks later. */
     private static int kindOfCall(int call) {
-        return call < 120 && draw(5) > 0 ? draw(12) : draw(27);
+        return call < 120 && draw(5) > 0 ? draw(12) : draw(KINDS);
     }
 
     private static int number(int below) {
@@ -168,38 +171,6 @@ final class RandomRunsTest {
         }
     }
 
-    private static long byProgram(Ropewalk x, int kind, int[] w) {
-        switch (kind) {
-            case 0: return x.sign(w[0], w[1], w[2], w[3]);
-            case 1: return x.space(w[0]);
-            case 2: return x.row();
-            case 3: return x.put(w[0], w[1]);
-            case 4: return x.fraction(w[0], w[1]);
-            case 5: return x.root(w[0], w[1]);
-            case 6: return x.scripts(w[0], w[1], w[2]);
-            case 7: return x.fence(w[0], w[1] == 1, w[2] == 1);
-            case 8: return x.matrix(w[0], w[1]);
-            case 9: return x.fit(w[0], w[1], w[2]);
-            case 10: return x.bar(w[0]);
-            case 11: return x.resize(w[0], w[1], w[2], w[3]);
-            case 12: return x.parts();
-            case 13: return x.ofPart(w[0], w[1]);
-            case 14: return x.size(w[0], w[1], w[2]);
-            case 15: return x.top(w[0], w[1]);
-            case 16: return x.place(w[0], w[1]);
-            case 17: return x.at(w[0], w[1]);
-            case 18: return x.classAt(w[0], w[1]);
-            case 19: return x.gap(w[0], w[1]);
-            case 20: return x.breakRow(w[0], w[1]);
-            case 21: return x.line(w[0], w[1]);
-            case 22: return x.cost();
-            case 23: return x.linesWith(w[0], w[1]);
-            case 24: return x.roomFor(w[0], w[1]);
-            case 25: return x.widthWith(w[0], w[1]);
-            default: return Double.doubleToLongBits(x.density());
-        }
-    }
-
     private static long byModel(Model m, int kind, int[] w) {
         switch (kind) {
             case 0: return m.sign(w[0], w[1], w[2], w[3]);
@@ -228,7 +199,8 @@ final class RandomRunsTest {
             case 23: return m.linesWith(w[0], w[1]);
             case 24: return m.roomFor(w[0], w[1]);
             case 25: return m.widthWith(w[0], w[1]);
-            default: return Double.doubleToLongBits(m.density());
+            case 26: return Double.doubleToLongBits(m.density());
+            default: return m.digest();
         }
     }
 }
