@@ -34,6 +34,9 @@ enum Scene {
     static final int OUTER_ROW = 43;
     static final int FURNITURE = 44;
     static final int LINES = 3;
+    static final int[] NO_ROWS = {FREE, SPACE, FRACTION, ROOT, SCRIPTS, FENCE, MATRIX, BAR};
+    static final int[] NO_MATRICES = {FREE, SPACE, TOP, FRACTION, ROOT, SCRIPTS, FENCE, BAR};
+    static final int[] NO_SIGNS = {SPACE, EMPTY_ROW, FRACTION, ROOT, SCRIPTS, FENCE, MATRIX, BAR};
 
     private static final int[] ROWS = {TOP, EMPTY_ROW, INNER_ROW, FULL_ROW, OUTER_ROW};
     private static final int MOST_QUESTIONS = 380;
