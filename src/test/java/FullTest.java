@@ -9,6 +9,8 @@ final class FullTest {
         rowsInOneAnother();
         matricesInOneAnother();
         alternatingOwners();
+        greatSizes();
+        greatRoot();
         Check.end();
     }
 
@@ -217,5 +219,57 @@ final class FullTest {
                 x.fit(matrix, 0, part);
                 return matrix;
         }
+    }
+
+    /** A FRACTION in a FENCE is twice as high and deep as what is over its line; HEIGHT and DEPTH are those in STYLE 3. */
+    private static long[] doubled(long[] inner) {
+        long high = 125 + 10 + 30 + inner[1] + inner[0];
+        long reach = (high - 125 + 149) / 150 * 150;
+        return new long[] {125 + reach, reach - 125};
+    }
+
+    private static int doubled(Ropewalk x, int inner) {
+        return x.fence(x.fraction(inner, x.space(0)), true, false);
+    }
+
+    private static void greatSizes() {
+        Check.test("60 PARTS: the greatest HEIGHT and DEPTH");
+        Ropewalk x = new Ropewalk();
+        int last = x.fraction(x.sign(0, 0, 2000, 2000), x.sign(0, 0, 2000, 2000));
+        // the upper one lies 165 + 1000 above the line, the lower one 40 + 1000 - 125 below it
+        long[] due = {2165, 1915};
+        while (x.parts() < 60) {
+            last = doubled(x, last);
+            due = doubled(due);
+        }
+        Check.holds("both are above 1000000000", due[0] > 1000000000 && due[1] > 1000000000);
+        Check.due("HEIGHT", x.size(last, 3, 1), due[0]);
+        Check.due("DEPTH", x.size(last, 3, 2), due[1]);
+        Check.due("top()", x.top(last, 3), 60);
+        Check.due("HEIGHT in the TOP", x.place(last, 4), due[0]);
+        Check.due("DEPTH in the TOP", x.place(last, 5), due[1]);
+        Check.due("the highest y", x.at(0, (int) due[0] - 1), last);
+        Check.due("above it", x.at(0, (int) due[0]), -1);
+        Check.due("the lowest y", x.at(0, (int) -due[1]), last);
+        Check.due("below it", x.at(0, (int) -due[1] - 1), -1);
+    }
+
+    private static void greatRoot() {
+        Check.test("60 PARTS: an index whose y is reckoned with numbers beyond an int's");
+        Ropewalk x = new Ropewalk();
+        int last = x.sign(0, 0, 2000, 2000);
+        long[] its = {1000, 1000};
+        while (x.parts() < 57) {
+            last = doubled(x, last);
+            its = doubled(its);
+        }
+        int index = x.space(0);
+        int root = x.root(last, index);
+        long sum = its[0] + 60 + its[1];
+        Check.holds("60 times the sum is beyond an int's", sum * 60 > Integer.MAX_VALUE);
+        x.top(root, 3);
+        Check.due("y of the index", x.place(index, 2), sum * 60 / 100 - its[1]);
+        Check.due("HEIGHT", x.place(root, 4), its[0] + 60);
+        Check.due("DEPTH", x.place(root, 5), its[1]);
     }
 }

@@ -11,9 +11,11 @@ final class SizeEdgesTest {
         scriptsUp();
         scriptsBetween();
         scriptsSizes();
+        scriptsStyles();
         fence();
         matrixDown();
         matrixAcross();
+        matrixPlaces();
         bar();
         Check.end();
     }
@@ -280,6 +282,25 @@ final class SizeEdgesTest {
         }
     }
 
+    private static void scriptsStyles() {
+        int[] none = {0, 0};
+        int[] high = {2000, 0};
+        int[] deep = {0, 2000};
+        Check.test("SCRIPTS: b and c have their sizes by the STYLE that each has there");
+        // 2000 is 1400 in the STYLE 2 and 1000 in 3; u is 400, 280 and 200, v is 150, 105 and 75
+        int[][] due = {{1800, 1000, 1250, 1550, 220}, {1800, 1000, 1250, 1550, 220}, {1280, 720, 895, 1105, 155},
+            {1200, 800, 925, 1075, 125}};
+        for (int style = 0; style <= 3; style++) {
+            String in = " in STYLE " + style;
+            Check.due("u + HEIGHT of b" + in, scripts(none, high, null).size(3, style, 1), due[style][0]);
+            Check.due("DEPTH of b - u" + in, scripts(none, deep, null).size(3, style, 2), due[style][1]);
+            Check.due("HEIGHT of c - v" + in, scripts(none, null, high).size(3, style, 1), due[style][2]);
+            Check.due("v + DEPTH of c" + in, scripts(none, null, deep).size(3, style, 2), due[style][3]);
+            Check.due("WIDTH with b" + in, scripts(none, none, null).size(3, style, 0), due[style][4]);
+            Check.due("WIDTH with c" + in, scripts(none, null, none).size(3, style, 0), due[style][4]);
+        }
+    }
+
     private static void fence() {
         Check.test("FENCE: k is the smallest number from 1 on for which k * 300* is not below r");
         int[][] due = {{0, 0, 1}, {549, 0, 1}, {550, 0, 1}, {551, 0, 2}, {850, 0, 2}, {851, 0, 3}, {2000, 0, 6},
@@ -363,6 +384,29 @@ final class SizeEdgesTest {
                 Check.due("STYLE", x.place(part, 0), Math.max(1, style));
             }
         }
+    }
+
+    private static void matrixPlaces() {
+        Check.test("MATRIX: wherever the widest, highest and deepest one is");
+        for (int rows = 1; rows <= 4; rows++) {
+            for (int columns = 1; columns <= 4; columns++) {
+                for (int place = 0; place < rows * columns; place++) {
+                    onePlace(rows, columns, place);
+                }
+            }
+        }
+    }
+
+    /** All other places are empty, so that their columns and rows are 0 wide, high and deep. */
+    private static void onePlace(int rows, int columns, int place) {
+        Ropewalk x = new Ropewalk();
+        int matrix = x.matrix(rows, columns);
+        int part = x.sign(0, 40, 700, 900);
+        x.fit(matrix, place, part);
+        int t = 1600 + (rows - 1) * 300;
+        Check.sizes(x, matrix, 1, 40 + (columns - 1) * 600, t / 2 + 250, t - t / 2 - 250);
+        x.top(matrix, 1);
+        Check.lies(x, part, 1, place % columns * 600, t / 2 + 250 - place / columns * 300 - 700);
     }
 
     private static void bar() {
